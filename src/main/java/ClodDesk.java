@@ -1041,10 +1041,11 @@ public final class ClodDesk {
             w = newW;
             h = newH;
             cells = w * h;
-            for (int cell = 0; cell < cells; cell++) {
-                boolean rowEnds = cell > 0 && x[cell - 1] == w - 1;
-                x[cell] = cell == 0 || rowEnds ? 0 : x[cell - 1] + 1;
-                y[cell] = cell == 0 ? 0 : y[cell - 1] + (rowEnds ? 1 : 0);
+            for (int row = 0; row < h; row++) {
+                for (int column = 0; column < w; column++) {
+                    x[row * w + column] = column;
+                    y[row * w + column] = row;
+                }
             }
             for (int what = 0; what < ROWS; what++) {
                 for (int cell = 0; cell < cells; cell++) {

@@ -99,6 +99,8 @@ public final class LandPromisesTest {
         for (int[] w : wrong) {
             due("bounds", d.bounds(w[0], w[1], w[2]), false);
         }
+        d.ground(0, 0, 4);
+        due("below S1 at first", d.look(0, 1), 0);
         d.ground(0, 0, 5);
         due("S1 at first", d.look(0, 1), 1);
         d.ground(0, 0, 19);
@@ -155,6 +157,8 @@ public final class LandPromisesTest {
         due("17 behind", d.reads(0, 0, 17, 0, 0, 0), false);
         due("below 0", d.reads(0, 0, 512 + 32, -32, 0, 0), false);
         due("below 0", d.reads(0, 0, 32 * 17 - 16, -1, 0, 0), false);
+        due("below 0", d.reads(0, 0, 9 * 32 + 9, -1, 0, 0), false);
+        due("below 0", d.reads(0, 0, 17 * 32, -32, 0, 0), false);
         due("a fourth kind", d.reads(0, 0, 0, 16, 0, 0), false);
         due("a seventh kind", d.reads(0, 0, 0, 0, 0, 512), false);
         due("half and half", d.reads(1, 2, 8 * 32, 8 * 32, 0, 0), true);

@@ -70,6 +70,12 @@ public final class MapPromisesTest {
         }
         due("one change", d.draw(2, false, 0), costs[0][1] + costs[1][1] + costs[2][2] + 300);
         drawnIs(d, 1, 1, 2);
+        // heights that make each cell of the row as steep: the weights stay, the last change is a bend
+        d.ground(2, 0, 5);
+        d.ground(3, 0, 5);
+        due("one bend at its first price", d.draw(2, false, 0), costs[0][1] + costs[1][1] + costs[2][2] + 100);
+        d.ground(2, 0, 0);
+        d.ground(3, 0, 0);
         d.price(0, 331);
         due("one change is too dear", d.draw(2, false, 0), costs[0][1] + costs[1][1] + costs[2][1]);
         drawnIs(d, 1, 1, 1);

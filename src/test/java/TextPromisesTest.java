@@ -91,6 +91,8 @@ public final class TextPromisesTest {
         keyFault("x:" + "not ".repeat(94) + "any(not sand);", 2, 386);
         keyFault("a:always;b:always;c:always;d:always;e:always;f:always;g:always;h:always;a:always;i:", 2, 81);
         due("a word of 8 letters", Checks.key(d, "abcdefgh:always;"), 1);
+        due("first and last letters", Checks.key(d, "az:always;za:always;zzzzzzzz:always;zzzzzzzy:always;aa:always;a:always;"), 6);
+        due("all unlike", d.count(3), 6);
         keyFault("abcdefghi:always;", 1, 0);
         due("N of 999", Checks.key(d, "x:deep<999;"), 1);
         keyFault("x:deep<1000;", 2, 7);
@@ -109,6 +111,15 @@ public final class TextPromisesTest {
         due("place in " + text, d.fault(1), place);
     }
 
+    /** What stands on the tape behind the first n bytes is not read. */
+    private static void cutShort(String text, int n, int place) {
+        ClodDesk d = new ClodDesk();
+        Checks.feed(d, Checks.bytes(text));
+        due("key " + n + " of " + text, d.key(n), -1);
+        due("fault", d.fault(0), 1);
+        due("place", d.fault(1), place);
+    }
+
     private static void holds(String expression, boolean want) {
         ClodDesk d = new ClodDesk();
         due("key " + expression, Checks.key(d, "no:not always;yes:" + expression + ";"), 2);
@@ -121,6 +132,11 @@ public final class TextPromisesTest {
         holds("any(peat)", false);
         holds("any(clay and mottled)", true);
         holds("any(clay and black)", false);
+        holds("all(mottled)", false);
+        holds("any(mottled and sand)", false);
+        holds("thick(mottled) = 30", true);
+        holds("thick(not mottled and grey) = 10", true);
+        holds("at 0(brown) and at 55(grey)", true);
         holds("all(sand or loam or clay)", true);
         holds("all(sand or clay)", false);
         holds("any(not loam and not clay and not sand)", false);
@@ -178,6 +194,9 @@ public final class TextPromisesTest {
         keyFault("x:", 1, 2);
         keyFault("x:always", 1, 8);
         keyFault("x:always;;", 1, 9);
+        cutShort("x:deep <=5;", 8, 8);
+        cutShort("x:deep <55;", 9, 9);
+        cutShort("xyz:always;", 2, 2);
         keyFault("x:always;y", 1, 10);
         keyFault("X:always;", 1, 0);
         keyFault("x:alway;", 1, 2);
@@ -251,6 +270,10 @@ public final class TextPromisesTest {
         boreFault("0-10", 1, 4);
         boreFault("0-10 loess red", 1, 5);
         boreFault("0-10 sandred", 1, 5);
+        boreFault("0-10 black red", 1, 5);
+        boreFault("0-10 sand chalk", 1, 10);
+        boreFault("0-10 sand mottled", 1, 10);
+        boreFault("0-10 sand red cm 5", 1, 14);
         boreFault("0-10 sand Red", 1, 10);
         boreFault("0-10 sand red red", 1, 14);
         boreFault("0-10 sand red stones", 1, 20);
