@@ -51,7 +51,6 @@ public final class ClodDesk {
     private final Scanner scanner = new Scanner(tape);
     private final KeyReader keyReader = new KeyReader(scanner);
     private Key currentKey = new Key();
-    private Key spareKey = new Key();
     private int lastFault;
     private int lastPlace = NONE;
     private final Land field = new Land();
@@ -83,14 +82,12 @@ public final class ClodDesk {
             return REFUSED;
         }
         scanner.start(n);
-        boolean good = keyReader.readKey(spareKey);
+        boolean good = keyReader.readKey();
         keepFault();
         if (!good) {
             return NONE;
         }
-        Key old = currentKey;
-        currentKey = spareKey;
-        spareKey = old;
+        currentKey = keyReader.handOver(currentKey);
         chances.resetReads(currentKey.kinds);
         for (int k = 0; k < MAX_KINDS; k++) {
             values[k] = 0;
@@ -844,15 +841,21 @@ public final class ClodDesk {
         private static final int MAX_NUMBER = 999;
 
         private final Scanner scanner;
-        private Key key;
+        private Key key = new Key();
         private int open;
 
         KeyReader(Scanner scanner) {
             this.scanner = scanner;
         }
 
-        boolean readKey(Key into) {
-            key = into;
+        /** The key that was read; the old one is written over by the next reading. */
+        Key handOver(Key old) {
+            Key read = key;
+            key = old;
+            return read;
+        }
+
+        boolean readKey() {
             key.clear();
             open = 0;
             for (int line = 0; line <= Key.MAX_LINES; line++) {
@@ -1393,18 +1396,23 @@ public final class ClodDesk {
                 keepFound(sum, spent);
                 return;
             }
-            int left = wanted - level - 1;
             for (int cell = 0; cell < land.cells; cell++) {
-                int most = sum + gain[cell] + left * topGain;
-                if (gain[cell] == NONE || most < foundSum) {
-                    continue;
-                }
-                int nowSpent = spent + land.steps(from, cell) + 1;
-                int leastDays = nowSpent + left * LEAST_DAYS;
-                if (leastDays <= limit && isBetter(most, leastDays) && isApart(level, cell)) {
-                    path[level] = cell;
-                    search(level + 1, cell, nowSpent, sum + gain[cell]);
-                }
+                tryCell(level, from, cell, spent, sum);
+            }
+        }
+
+        /** Goes on from a cell only if the best that may come behind it would be better than what was found. */
+        private void tryCell(int level, int from, int cell, int spent, int sum) {
+            int left = wanted - level - 1;
+            int most = sum + gain[cell] + left * topGain;
+            if (gain[cell] == NONE || most < foundSum) {
+                return;
+            }
+            int nowSpent = spent + land.steps(from, cell) + 1;
+            int leastDays = nowSpent + left * LEAST_DAYS;
+            if (leastDays <= limit && isBetter(most, leastDays) && isApart(level, cell)) {
+                path[level] = cell;
+                search(level + 1, cell, nowSpent, sum + gain[cell]);
             }
         }
 
