@@ -22,6 +22,23 @@ final class Checks {
         due(call, got ? 1 : 0, want ? 1 : 0);
     }
 
+    /** A call with one of its arguments left open. */
+    interface Ask {
+        int at(int v);
+    }
+
+    /** The ends of a range are taken; what stands beside them, and what is far off, is refused. */
+    void ends(String call, int least, int most, int refused, Ask ask) {
+        for (int v : new int[] {least - 1, most + 1, Integer.MIN_VALUE, Integer.MAX_VALUE}) {
+            due(call + " of " + v, ask.at(v), refused);
+        }
+        for (int v : new int[] {least, most}) {
+            if (ask.at(v) == refused) {
+                due(call + " of " + v + " is refused", 1, 0);
+            }
+        }
+    }
+
     void end() {
         System.out.println(name + (wrong == 0 ? ": all answers are as due" : ": " + wrong + " answers are not as due"));
         if (wrong != 0) {
@@ -58,6 +75,11 @@ final class Checks {
     static int bore(ClodDesk desk, String text, int hand, int cell) {
         feed(desk, bytes(text));
         return desk.bore(text.length(), hand, cell);
+    }
+
+    /** A bore of one layer, by the letter of its tex: s, i, l, c, p, k. */
+    static int boreOf(ClodDesk desk, char tex, int hand, int cell) {
+        return bore(desk, "0-9 " + PlainTexts.TEX.get("silcpk".indexOf(tex)) + " red", hand, cell);
     }
 
     /** 1 for IndexOutOfBoundsException, 2 for NoSuchElementException, 3 for another one, 0 for none. */
