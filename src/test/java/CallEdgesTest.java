@@ -17,6 +17,7 @@ public final class CallEdgesTest {
         promise5LatestFault();
         promise6Notes();
         promise7NewLand();
+        promise7NotesOfBothLands();
         promise8Ground();
         promise9Bounds();
         promise13Layers();
@@ -222,6 +223,12 @@ public final class CallEdgesTest {
         due("a text with a fault at 60", Checks.bore(d, "7", 0, 0), -2);
         due("it is not read", d.fault(0), 0);
         due("the tape stays", feedBlanks(d), 40);
+        due("a key for all sixty", d.key(0), 0);
+        Checks.key(d, "x:any(sand);");
+        for (int note = 0; note < 60; note++) {
+            due("its kind", d.told(note, 3), 0);
+        }
+        due("all of them count", d.count(6), 60);
     }
 
     private static void faultIs(ClodDesk d, int fault, int place) {
@@ -309,6 +316,28 @@ public final class CallEdgesTest {
             due("no note", d.told(0, 0), -2);
             due("notes are numbered from 0 on", Checks.bore(d, LAYER, 0, 0), 0);
         }
+    }
+
+    /** "no NOTES": what a number was on the land ahead does not matter on the new one */
+    private static void promise7NotesOfBothLands() {
+        ClodDesk d = new ClodDesk();
+        Checks.key(d, "s:any(sand);c:any(clay);");
+        Checks.bore(d, LAYER, 0, 0);
+        d.strike(0);
+        d.strike(1);
+        Checks.bore(d, "0-1 clay red;1-2 clay red", 0, 0);
+        d.land(2, 2);
+        due("nothing counts", d.count(6), 0);
+        for (int i = 0; i < 3; i++) {
+            due("bore", Checks.bore(d, LAYER, 1, i), i);
+        }
+        due("all of them count", d.count(6), 3);
+        due("a bore where a strike was", d.told(1, 0), 1);
+        due("its layer", d.layer(1, 0, 1), 10);
+        due("a strike where a bore was", d.strike(0), 3);
+        due("it is a strike", d.told(3, 2), -2);
+        due("it has no layers", d.layer(3, 0, 0), -1);
+        due("it strikes", d.count(6), 2);
     }
 
     /** "Of a CELL, what 0: HEIGHT, 1: ROCK, 2: FELT (NONE), 3: WORTH, 4: OLD CLASS (NONE) becomes v" */

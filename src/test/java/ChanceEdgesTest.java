@@ -81,6 +81,14 @@ public final class ChanceEdgesTest {
             due("far off in the third", d.reads(0, 0, 512, 0, pair, 0), false);
             due("far off in the fourth", d.reads(0, 0, 512, 0, 0, pair), false);
         }
+        // numbers below 0 that would make up for too much elsewhere, however the two are told apart
+        for (int pair : new int[] {-1, -2, -16, -31, -32, -33, -64, -512}) {
+            for (int more = 15; more <= 34; more++) {
+                int others = more / 2 * 32 + (more + 1) / 2;
+                due("below 0 with " + more, d.reads(0, 0, others, pair, 0, 0), false);
+                due("below 0 with " + more, d.reads(0, 0, pair, 0, 0, others), false);
+            }
+        }
         due("31 for the second is not a number of the row", d.reads(0, 0, 31, 0, 0, 0), false);
         due("15 times 32 and 32 is 16 times 32", d.reads(0, 0, 15 * 32 + 32, 0, 0, 0), true);
     }

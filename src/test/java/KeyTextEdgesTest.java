@@ -33,6 +33,7 @@ public final class KeyTextEdgesTest {
         ofALayer();
         notAndOr();
         firstLineThatHolds();
+        noneOfTheKeysAhead();
         CHECKS.end();
     }
 
@@ -412,6 +413,12 @@ public final class KeyTextEdgesTest {
         holds("at 90(not peat)", false);
         holds("at 999(not peat)", false);
         holds("not at 90(peat)", true);
+        ClodDesk d = new ClodDesk();
+        Checks.key(d, "x:at 299(not clay);y:not at 300(not clay);");
+        Checks.bore(d, "0-1 sand red;1-2 sand red;2-3 sand red;3-4 sand red;4-5 sand red;5-6 sand red;6-7 sand red;7-300 sand red", 0, 0);
+        Checks.bore(d, "0-1 sand red;1-2 sand red;2-3 sand red;3-4 sand red;4-5 sand red;5-6 sand red;6-7 sand red;7-300 clay red", 0, 0);
+        due("the eighth layer's end", d.told(0, 3), 0);
+        due("behind the eighth layer", d.told(1, 3), 1);
     }
 
     /** "thick: the sum of all that are so"; "from: where the first that is so begins (999 without)"; "deep" */
@@ -502,5 +509,34 @@ public final class KeyTextEdgesTest {
         due("a kind that came earlier", d.told(1, 3), 0);
         Checks.key(d, "");
         due("an empty key", d.told(0, 3), -1);
+    }
+
+    /** "are THE KEY from now on": nothing of the keys ahead is left, however long they were */
+    private static void noneOfTheKeysAhead() {
+        ClodDesk d = new ClodDesk();
+        Checks.boreOf(d, 's', 0, 0);
+        String[] ahead = {"x:any(clay);x:always;", "x:always;".repeat(16), "x:any(clay);y:any(clay);z:always;"};
+        for (String text : ahead) {
+            for (int i = 0; i < 2; i++) {
+                Checks.key(d, text);
+            }
+            Checks.key(d, "x:any(peat);");
+            due("no line holds behind " + text, d.told(0, 4), -1);
+            Checks.key(d, "x:any(peat);y:any(clay);");
+            due("no line holds behind " + text, d.told(0, 4), -1);
+            due("kinds", d.count(3), 2);
+        }
+        // 96 knots of which the last one says what holds: all bores here, none there
+        Checks.boreOf(d, 'c', 0, 0);
+        String full = "any(sand) or ".repeat(31) + "not any(sand);";
+        for (int i = 0; i < 4; i++) {
+            due("a full key", Checks.key(d, "x:" + full), 1);
+            due("96 knots", d.count(5), 96);
+            due("sand", d.told(0, 3), 0);
+            due("clay", d.told(1, 3), 0);
+            due("another full key", Checks.key(d, "x:" + full.replace(" or ", " and ")), 1);
+            due("not sand", d.told(0, 3), -1);
+            due("not clay", d.told(1, 3), -1);
+        }
     }
 }

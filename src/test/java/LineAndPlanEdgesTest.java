@@ -195,6 +195,14 @@ public final class LineAndPlanEdgesTest {
         Checks.key(one, "x:always;");
         due("one kind costs nothing", one.draw(0, false, 0), 0);
         lineIs(one, 0, 0, 0, 0);
+        ClodDesk eight = new ClodDesk();
+        eight.land(8, 8);
+        Checks.key(eight, "a:any(sand);b:any(silt);c:any(loam);d:any(peat);e:any(chalk);f:any(grey);g:any(black);h:any(clay);");
+        due("eight kinds cost 875 each", eight.draw(0, true, 7), 8 * 875);
+        lineIs(eight, new int[8]);
+        Checks.boreOf(eight, 'c', 0, 63);
+        eight.draw(1, false, 7);
+        lineIs(eight, 7, 7, 7, 7, 7, 7, 7, 7);
     }
 
     /** Promise 19: "NONE: no such n, row, column, or no KINDS" */
@@ -280,6 +288,12 @@ public final class LineAndPlanEdgesTest {
         Checks.key(d, "c:any(clay);p:any(peat);");
         due("none has a kind", d.plan(1, 60, 3), 500);
         planIs(d, 1, 3);
+        ClodDesk row = desk(3, 2);
+        Checks.boreOf(row, 's', 0, 0);
+        due("two of 3 by 2, one of them below the bore", row.plan(2, 60, 0) > 0, true);
+        due("the one below", row.planned(0, 0), 3);
+        Checks.boreOf(row, 's', 0, 3);
+        due("no two of the other columns are apart", row.plan(2, 60, 0), -1);
     }
 
     /** "FAR of any two of them 2 at least" */
@@ -372,6 +386,14 @@ public final class LineAndPlanEdgesTest {
         planIs(d, 3, 24);
         due("the nearer corner first", d.plan(2, 60, 18), 4 * 667);
         planIs(d, 3 + 9, 24, 0);
+        ClodDesk last = desk(4, 4);
+        last.ground(0, 3, 99);
+        due("what is worth most comes last", last.plan(2, 60, 15), 100 * 667);
+        // two cells on the way, of all those the first
+        planIs(last, 5 + 3, 2, 0);
+        due("what is worth most comes last of three", last.plan(3, 60, 15), 101 * 667);
+        due("and the days", last.planned(1, 0), 1 + 2 + 1 + 4 + 1);
+        due("the last one", last.planned(0, 2), 0);
         due("more sum for more days", d.plan(1, 5, 4), 2 * 667);
         planIs(d, 5, 0);
         due("as there is no day for it", d.plan(1, 4, 4), 667);

@@ -14,6 +14,8 @@ public final class MapEdgesTest {
         seamOfTheOldMap();
         seamOfBests();
         mapsWithoutKinds();
+        mapsOfOneKind();
+        mapsOfTheLargestLand();
         valuesMayBe();
         worthArguments();
         worthAtItsEnds();
@@ -221,6 +223,44 @@ public final class MapEdgesTest {
             due("nothing to tell", d.maps(what, 2), 0);
             due("no such seam", d.maps(what, 3), what == 0 ? 0 : -1);
         }
+    }
+
+    private static void mapsOfOneKind() {
+        ClodDesk d = new ClodDesk();
+        Checks.key(d, "x:always;");
+        classes(d, 0, 1, 1, 0);
+        due("nothing is turned", d.maps(0, 0), 0);
+        Checks.boreOf(d, 's', 0, 0);
+        due("the two of class 0", d.maps(0, 0), 2);
+        Checks.boreOf(d, 's', 0, 1);
+        due("all four that have a class", d.maps(0, 0), 4);
+        due("no seam of one kind", d.maps(1, 0), 0);
+        due("no seam of one kind", d.maps(2, 0), 0);
+    }
+
+    /** 64 cells, and fewer of them behind that: what the larger land had is gone */
+    private static void mapsOfTheLargestLand() {
+        ClodDesk d = desk(8, 8);
+        for (int cell = 0; cell < 64; cell++) {
+            d.ground(cell, 4, cell % 2);
+        }
+        Checks.boreOf(d, 's', 0, 0);
+        due("every second cell", d.maps(0, 0), 32);
+        Checks.boreOf(d, 'c', 0, 63);
+        due("each row has a seam", d.maps(1, 6), 8);
+        due("each row has a seam", d.maps(1, 0), 8);
+        d.land(3, 3);
+        for (int cell = 0; cell < 9; cell++) {
+            d.ground(cell, 4, cell % 2);
+        }
+        Checks.boreOf(d, 's', 0, 0);
+        Checks.boreOf(d, 'c', 0, 1);
+        Checks.boreOf(d, 's', 0, 8);
+        due("best is s, at 1 too", d.chance(3, 1, 0, 2), 0);
+        due("those of class 0", d.maps(0, 0), 5);
+        due("each of three rows", d.maps(1, 0), 3);
+        due("each of three rows", d.maps(1, 1), 3);
+        due("bests are all alike", d.maps(2, 0), 0);
     }
 
     /** "VALUE of a KIND 0 .. 9999 (0 at first)"; promise 12, "false: no such ones" */
